@@ -83,10 +83,10 @@ public final class ShrinkDesk {
             return false;
         }
         Term x = stack[stacked - 1];
-        if (x.levels >= DEPTH_LIMIT) {
+        if (x == null || x.levels >= DEPTH_LIMIT) {
             return false;
         }
-        stack[stacked - 1] = new Term(Term.NOT, x, x);
+        stack[stacked - 1] = new Term(Term.NOT, x, null, x.levels + 1);
         return true;
     }
 
@@ -96,12 +96,16 @@ public final class ShrinkDesk {
         }
         Term x = stack[stacked - 2];
         Term y = stack[stacked - 1];
-        if (x.levels >= DEPTH_LIMIT || y.levels >= DEPTH_LIMIT) {
+        if (x == null || y == null) {
+            return false;
+        }
+        int levels = 1 + Math.max(x.levels, y.levels);
+        if (levels > DEPTH_LIMIT) {
             return false;
         }
         stacked--;
         stack[stacked] = null;
-        stack[stacked - 1] = new Term(either ? Term.OR : Term.AND, x, y);
+        stack[stacked - 1] = new Term(either ? Term.OR : Term.AND, x, y, levels);
         return true;
     }
 
@@ -277,7 +281,7 @@ public final class ShrinkDesk {
         }
     }
 
-    /** A term over texts. NOT has its term as x, and as y too, so that no term is ever none. */
+    /** A term over texts: of characters and a number, or of one or two other terms. */
     private static final class Term {
         static final int HAS = 0;
         static final int BEFORE = 1;
@@ -304,17 +308,17 @@ public final class ShrinkDesk {
             this.n = n;
             x = null;
             y = null;
-            levels = 1;
+            this.levels = 1;
         }
 
-        Term(int kind, Term x, Term y) {
+        Term(int kind, Term x, Term y, int levels) {
             this.kind = kind;
             c = ' ';
             d = ' ';
             n = 0;
             this.x = x;
             this.y = y;
-            levels = 1 + Math.max(x.levels, y.levels);
+            this.levels = levels;
         }
     }
 
@@ -447,8 +451,8 @@ public final class ShrinkDesk {
         private static final int NOTHING = -1;
         private static final char NO_TAIL = ' ';
 
+        /** Whether there is a grammar; what is told below counts just then. */
         boolean valid;
-        /** The rule of the start, or -1. */
         int start;
         int rules;
         /** The rules, each behind those that it leads to. */
@@ -468,7 +472,6 @@ public final class ShrinkDesk {
         private final boolean[] placed = new boolean[NAMES];
 
         Grammar() {
-            start = -1;
         }
 
         void become(char[] signs, int total) {
@@ -478,9 +481,6 @@ public final class ShrinkDesk {
                 findEmptiable();
                 findOrder();
                 valid = ordered == rules;
-            }
-            if (!valid) {
-                forget();
             }
         }
 
@@ -526,8 +526,6 @@ public final class ShrinkDesk {
         }
 
         private void forget() {
-            valid = false;
-            start = -1;
             rules = 0;
             ordered = 0;
             items = 0;

@@ -9,6 +9,7 @@ public final class GrammarTest {
         wrongNames(due);
         leading(due);
         replaced(due);
+        manyTimes(due);
         due.end();
     }
 
@@ -118,6 +119,9 @@ public final class GrammarTest {
         reads(due, "A=aA?A?;", 1);
         reads(due, "A=BB;B=b?A;", -1);
         reads(due, "A=B;B=aC;C=A?;", 3);
+        reads(due, "B=AB;A=;", -1);
+        reads(due, "B=AB/b;A=a;", 2);
+        reads(due, "A=b?;B=A;", 2);
     }
 
     private static void replaced(Due due) {
@@ -143,6 +147,20 @@ public final class GrammarTest {
         due.is("read() of one that leads back", Hand.read(desk, "A=Bc;B=A;"), -1);
         due.is("nodes() after one that leads back", desk.nodes(), -1);
         due.is("text is not touched", Hand.text(desk), "ab");
+    }
+
+    /** Nothing of an earlier grammar counts for a later one, and nothing of it takes up room. */
+    private static void manyTimes(Due due) {
+        ShrinkDesk desk = new ShrinkDesk();
+        due.is("read() with B emptiable", Hand.read(desk, "A=BA/a;B=b?;"), -1);
+        due.is("read() with B not emptiable", Hand.read(desk, "A=BA/a;B=b;"), 2);
+        due.is("read() without B", Hand.read(desk, "A=Ba;"), -1);
+        for (int i = 0; i < 40; i++) {
+            due.is("read() number " + i, Hand.read(desk, "A=ab/a/;"), 1);
+            Hand.type(desk, "a");
+            due.is("nodes() number " + i, desk.nodes(), 1);
+            desk.clear();
+        }
     }
 
     private static void reads(Due due, String grammar, int want) {

@@ -11,6 +11,7 @@ public final class ReduceTest {
         characters(due);
         words(due);
         levels(due);
+        levelsTwice(due);
         againAndAgain(due);
         moves(due);
         ends(due);
@@ -110,6 +111,11 @@ public final class ReduceTest {
         due.is("five stay, all probes", reduced(forgetful("abcde", "l5"), 0, 99), "abcde: 20 0 1 0 0");
         due.is("all but the empty text", reduced(Hand.desk("abcdefgh", "l1"), 0, 99), "a: 4 0 1 0 4");
         due.is("all go at last", reduced(Hand.desk("abcdefgh", "l0"), 0, 99), ": 4 0 1 0 4");
+        due.is("a part of two goes", reduced(forgetful("abcdefgh", "ha1;hd1;&;hg1;&"), 0, 99), "adg: 44 0 1 0 0");
+        ShrinkDesk again = Hand.desk("bbba", "ha1");
+        due.is("once", reduced(again, 0, 99), "a: 5 0 1 0 5");
+        Hand.retype(again, "abbb");
+        due.is("and again", reduced(again, 0, 99), "a: 6 2 2 0 6");
         ShrinkDesk desk = Hand.desk("ab", "hb1");
         Hand.mark(desk, "ha1", true);
         due.is("outcome 2 is none to take", reduced(desk, 0, 99), "b: 3 0 1 0 3");
@@ -140,6 +146,14 @@ public final class ReduceTest {
         due.is("two units stay", reduced(twice, 2, 99), "()(): 6 0 1 0 6");
     }
 
+    /** What was kept in one reduction is not kept in the next one for that. */
+    private static void levelsTwice(Due due) {
+        ShrinkDesk desk = Hand.desk("a(a)", "l4", BRACKETS);
+        due.is("all stays", reduced(desk, 2, 99), "a(a): 3 1 1 0 3");
+        Hand.mark(desk, "ha1", false);
+        due.is("the brackets go", reduced(desk, 2, 99), "a: 5 1 2 0 2");
+    }
+
     /** Kind 3 goes on where kind 2 rests; it stops when the text didn't get shorter, or doesn't parse. */
     private static void againAndAgain(Due due) {
         due.is("(aa)a", reduced(Hand.desk("(aa)a", "h(1", BRACKETS), 3, 99), "(): 3 2 1 0 3");
@@ -166,6 +180,7 @@ public final class ReduceTest {
         due.is("one deeper of the rule", reduced(Hand.desk("(-a)", "l1", "A=(B)/a;B=-A;"), 4, 99), "a: 1 0 1 0 1");
         due.is("as many characters", reduced(Hand.desk("a", "l1", "A=aB/a;B=A?;"), 4, 99), "a: 0 0 1 0 0");
         due.is("characters of no rule", reduced(Hand.desk("aa", "l2", "A=a?a?;"), 4, 99), "aa: 1 1 1 0 1");
+        due.is("loose without characters", reduced(Hand.desk("a", "l0", "A=B?a;B=b?;"), 4, 99), "a: 0 0 1 0 0");
         due.is("by none", reduced(Hand.desk("(a)", "h(1", "A=(A)/a/;"), 4, 99), "(a): 1 0 1 0 1");
         due.is("by what has no characters", reduced(Hand.desk("(())", "l0", "A=(A)/;"), 4, 99), ": 2 0 1 0 2");
     }

@@ -7,6 +7,7 @@ public final class RememberTest {
         byOtherCalls(due);
         longest(due);
         aRound(due);
+        longestAfterForgetting(due);
         which(due);
         due.end();
     }
@@ -85,6 +86,22 @@ public final class RememberTest {
         Hand.mark(desk, "l6", false);
         due.is("mark forgets all 24", desk.count(4), 0);
         reduce(due, desk, "a00000", "a00000", "60 14 3 0 8");
+    }
+
+    /** After more than 24 texts all is forgotten; then it begins as on a new object. */
+    private static void longestAfterForgetting(Due due) {
+        ShrinkDesk desk = Hand.desk("", "l8");
+        reduce(due, desk, "abcdefgh", "abcdefgh", "26 0 1 0 24");
+        Hand.mark(desk, "l2", false);
+        for (int i = 0; i < 24; i += 2) {
+            Hand.retype(desk, "abcdefghijklmnopqrstuvwx".substring(i, i + 2));
+            desk.reduce(0, 400);
+        }
+        due.is("counts", Hand.counts(desk), "50 0 13 0 24");
+        reduce(due, desk, "yz", "yz", "52 0 14 0 24");
+        reduce(due, desk, "cd", "cd", "52 2 15 0 24");
+        reduce(due, desk, "ab", "ab", "54 2 16 0 24");
+        reduce(due, desk, "ef", "ef", "54 4 17 0 24");
     }
 
     private static void which(Due due) {

@@ -140,6 +140,15 @@ public final class TermsTest {
         due.is("depth 5 and depth 1", Hand.put(other, "hc1;ha1;!;!;!;!;|"), true);
         due.is("not() of depth 6", other.not(), false);
 
+        holds(due, "ha1;!;!;!;!;!", "a", false);
+        holds(due, "ha1;!;!;!;!;!", "b", true);
+        holds(due, "hz1;hz1;hz1;hz1;hz1;ha1;|;|;|;|;|", "a", true);
+        holds(due, "hz1;hz1;hz1;hz1;hz1;ha1;|;|;|;|;|", "b", false);
+        holds(due, "ha1;hz1;|;hz1;|;hz1;|;hz1;|;hz1;|", "a", true);
+        holds(due, "l0;l0;l0;l0;l0;ha1;&;&;&;&;&", "a", true);
+        holds(due, "l0;l0;l0;l0;l0;ha1;&;&;&;&;&", "b", false);
+        holds(due, "ha1;l0;&;l0;&;l0;&;l0;&;l0;&", "a", true);
+
         ShrinkDesk full = new ShrinkDesk();
         due.is("32 leaves", Hand.put(full, leaves(5)), true);
         due.is("mark of 32 leaves", full.mark(false), true);
@@ -194,6 +203,13 @@ public final class TermsTest {
         due.is("mark of none", desk.mark(false), false);
         due.is("mark of none, unclear", desk.mark(true), false);
         due.is("outcome() after mark of none", desk.outcome(), 2);
+        Hand.retype(desk, "ca");
+        Hand.retype(desk, "c");
+        due.is("outcome(): nothing of the longer text", desk.outcome(), 1);
+        Hand.mark(desk, "ha1", false);
+        due.is("outcome(): nothing of the longer text, has", desk.outcome(), 0);
+        Hand.mark(desk, "nca", false);
+        due.is("outcome(): nothing of the longer text, pair", desk.outcome(), 0);
         due.is("outcome() asks for nothing", Hand.counts(desk), "0 0 0 0 0");
     }
 

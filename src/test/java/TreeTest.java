@@ -154,6 +154,10 @@ public final class TreeTest {
         }
         Hand.read(desk, "A=ab;");
         due.is("nodes() of ab by another grammar", desk.nodes(), 1);
+        Hand.read(desk, "A=ba;");
+        due.is("nodes() of ab by a grammar that it doesn't fit", desk.nodes(), 0);
+        Hand.read(desk, "A=aB;B=b;");
+        due.is("nodes() of ab by one that it fits again", desk.nodes(), 2);
     }
 
     private static void tree(Due due, String grammar, String text, String want) {
