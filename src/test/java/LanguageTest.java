@@ -37,7 +37,56 @@ public final class LanguageTest {
             fields(due, each);
             methods(due, each, face);
         }
+        wildCalls(due);
         due.end();
+    }
+
+    /** Rule 7: no call throws or fails to end, for any arguments in any state. */
+    private static void wildCalls(Due due) {
+        long seed = 12345;
+        for (int round = 0; round < 40; round++) {
+            ShrinkDesk desk = new ShrinkDesk();
+            for (int call = 0; call < 4000; call++) {
+                seed = seed * 6364136223846793005L + 1442695040888963407L;
+                wildCall(desk, (int) (seed >>> 59), (int) (seed >>> 33), (int) (seed >>> 20));
+            }
+            due.is("length() after wild calls", desk.length() >= 0 && desk.length() <= 32, true);
+        }
+    }
+
+    private static void wildCall(ShrinkDesk desk, int which, int x, int y) {
+        String signs = which % 2 == 0 ? "ab(A=;" : Hand.GRAMMAR_SIGNS;
+        char c = x % 7 == 0 ? (char) y : signs.charAt(Math.floorMod(x, signs.length()));
+        int small = x % 5 == 0 ? y : Math.floorMod(y, 12) - 2;
+        switch (which % 16) {
+            case 0: desk.type(c); break;
+            case 1: desk.write(c); break;
+            case 2: wildRead(desk, x, y); break;
+            case 3: desk.has(c, small); break;
+            case 4: desk.pair(c, 'a', y > 0); break;
+            case 5: desk.size(small); break;
+            case 6: desk.not(); break;
+            case 7: desk.join(y > 0); break;
+            case 8: desk.mark(y > 0); break;
+            case 9: desk.remember(y > 0); break;
+            case 10: desk.node(small + desk.outcome() + desk.nodes()); break;
+            case 11: desk.depth(small); break;
+            case 12: desk.at(small); break;
+            case 13: desk.count(small); break;
+            case 14: desk.type((char) ('a' + (y & 1))); break;
+            default: desk.reduce(small, x % 3 == 0 ? y : 400); break;
+        }
+    }
+
+    private static void wildRead(ShrinkDesk desk, int x, int y) {
+        if (x % 3 == 0) {
+            desk.clear();
+        }
+        desk.read();
+        if (x % 4 > 0) {
+            Hand.write(desk, y % 2 == 0 ? "A=B*;B=a?b+;" : "F=(F)/E*;E=b+/a?b?;");
+            desk.read();
+        }
     }
 
     private static void fields(Due due, Class<?> each) {
