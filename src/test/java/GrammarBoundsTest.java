@@ -266,6 +266,10 @@ public final class GrammarBoundsTest {
                 reads("A=" + items + "C" + tail + "/a;C=A;" + others, 4);
             }
         }
+        // What stands behind an alternative is the next one's.
+        reads("A=b?;B=A;", 2);
+        reads("A=aB/b?;B=A;", 2);
+        reads("A=/b?;B=cC/b?;C=B/A;", 3);
     }
 
     /** "EMPTIABLE if in one of its alternatives each item has ? or * behind it or is the name of an emptiable rule" */
