@@ -827,7 +827,7 @@ public final class ShrinkDesk {
             level[0] = 0;
             parent[0] = -1;
             total = 1;
-            grow(0, 1);
+            grow(this, 0, 1);
             return true;
         }
 
@@ -845,21 +845,23 @@ public final class ShrinkDesk {
         }
 
         /** Each level has a node of its own, so there are no more levels than nodes. */
-        private void grow(int above, int depthNow) {
+        private static void grow(Tree tree, int above, int depthNow) {
             if (depthNow >= NODE_LIMIT) {
                 return;
             }
-            int left = textTotal - begin[above];
-            int a = matcher.alternativeOf(rule[above], left);
+            Grammar grammar = tree.grammar;
+            Matcher matcher = tree.matcher;
+            int left = tree.textTotal - tree.begin[above];
+            int a = matcher.alternativeOf(tree.rule[above], left);
             for (int item = grammar.firstItemOf(a); item < grammar.endItemOf(a); item++) {
                 int next = matcher.more(item, 0, left);
                 for (int times = 1; next >= 0 && times <= PLACES; times++) {
-                    int node = put(item, above, left, next);
+                    int node = tree.put(item, above, left, next);
                     if (node >= 0) {
-                        loose[node] = isLoose(item, times, next);
+                        tree.loose[node] = tree.isLoose(item, times, next);
                     }
-                    if (node >= 0 && rule[node] < NAMES) {
-                        grow(node, depthNow + 1);
+                    if (node >= 0 && tree.rule[node] < NAMES) {
+                        grow(tree, node, depthNow + 1);
                     }
                     left = next;
                     next = matcher.more(item, times, left);
